@@ -1,5 +1,13 @@
 /** Every graph there is, 64 sets of edges with 16 choices of edges to the sink, against the model. */
 public final class AllGraphsTest {
+    private interface Sink {
+        boolean give(int a, int count);
+    }
+
+    private interface Edge {
+        boolean make(int a, int b, boolean there);
+    }
+
     // An object is good for 512 calls; building a graph takes ten of them.
     private static final int CALLS_PER_OBJECT = 500;
 
@@ -12,7 +20,7 @@ public final class AllGraphsTest {
         for (graph = 0; graph < 1024; graph++) {
             callsLeft = 0;
             Model model = new Model();
-            build(model);
+            build(model::sink, model::edge);
             numbersOfTheGraph(model);
             everyState(model);
             // The sums take longest: they are looked at on every seventh graph, and on the greatest one.
@@ -86,33 +94,21 @@ public final class AllGraphsTest {
     private static SandpileLab lab() {
         if (callsLeft <= 10) {
             lab = new SandpileLab();
-            build(lab);
+            build(lab::sink, lab::edge);
             callsLeft = CALLS_PER_OBJECT;
         }
         callsLeft--;
         return lab;
     }
 
-    private static void build(SandpileLab x) {
+    private static void build(Sink sink, Edge edge) {
         int bit = 0;
         for (int a = 0; a < 4; a++) {
-            x.sink(a, 1 + (graph >> bit++ & 1));
+            sink.give(a, 1 + (graph >> bit++ & 1));
         }
         for (int a = 0; a < 4; a++) {
             for (int b = 0; b < a; b++) {
-                x.edge(a, b, (graph >> bit++ & 1) == 1);
-            }
-        }
-    }
-
-    private static void build(Model x) {
-        int bit = 0;
-        for (int a = 0; a < 4; a++) {
-            x.sink(a, 1 + (graph >> bit++ & 1));
-        }
-        for (int a = 0; a < 4; a++) {
-            for (int b = 0; b < a; b++) {
-                x.edge(a, b, (graph >> bit++ & 1) == 1);
+                edge.make(a, b, (graph >> bit++ & 1) == 1);
             }
         }
     }
