@@ -1,13 +1,5 @@
 /** Every graph there is, 64 sets of edges with 16 choices of edges to the sink, against the model. */
 public final class AllGraphsTest {
-    private interface Sink {
-        boolean give(int a, int count);
-    }
-
-    private interface Edge {
-        boolean make(int a, int b, boolean there);
-    }
-
     // An object is good for 512 calls; building a graph takes ten of them.
     private static final int CALLS_PER_OBJECT = 500;
 
@@ -17,14 +9,13 @@ public final class AllGraphsTest {
     private static int graph;
 
     public static void main(String[] args) {
-        for (graph = 0; graph < 1024; graph++) {
+        for (graph = 0; graph < Graphs.COUNT; graph++) {
             callsLeft = 0;
-            Model model = new Model();
-            build(model::sink, model::edge);
+            Model model = Graphs.model(graph);
             numbersOfTheGraph(model);
             everyState(model);
             // The sums take longest: they are looked at on every seventh graph, and on the greatest one.
-            if (graph % 7 == 0 || graph == 1023) {
+            if (graph % 7 == 0 || graph == Graphs.ALL) {
                 everySum(model);
             }
         }
@@ -93,24 +84,11 @@ public final class AllGraphsTest {
 
     private static SandpileLab lab() {
         if (callsLeft <= 10) {
-            lab = new SandpileLab();
-            build(lab::sink, lab::edge);
+            lab = Graphs.lab(graph);
             callsLeft = CALLS_PER_OBJECT;
         }
         callsLeft--;
         return lab;
-    }
-
-    private static void build(Sink sink, Edge edge) {
-        int bit = 0;
-        for (int a = 0; a < 4; a++) {
-            sink.give(a, 1 + (graph >> bit++ & 1));
-        }
-        for (int a = 0; a < 4; a++) {
-            for (int b = 0; b < a; b++) {
-                edge.make(a, b, (graph >> bit++ & 1) == 1);
-            }
-        }
     }
 
     private static void due(String call, int first, int second, boolean got, boolean want) {
