@@ -14,10 +14,8 @@ public final class AllGraphsTest {
             Model model = Graphs.model(graph);
             numbersOfTheGraph(model);
             everyState(model);
-            // The sums take longest: they are looked at on every seventh graph, and on the greatest one.
-            if (graph % 7 == 0 || graph == Graphs.ALL) {
-                everySum(model);
-            }
+            everySum(model);
+            greatDrops(model);
         }
         check.end();
     }
@@ -36,12 +34,9 @@ public final class AllGraphsTest {
             boolean stable = model.stable(state);
             due("set", state, 0, lab().set(state), stable);
             due("recurrent", state, 0, lab().recurrent(state), model.recurrent(state));
-            // Of the many numbers that are no stable state's, some are enough for the rest.
-            if (stable || state % 17 == 0) {
-                due("opposite", state, 0, lab().opposite(state), model.opposite(state));
-                due("orderOf", state, 0, lab().orderOf(state), orderOf(model, state));
-                due("recurrentOf", state, 0, lab().recurrentOf(state), model.recurrentOf(state));
-            }
+            due("opposite", state, 0, lab().opposite(state), model.opposite(state));
+            due("orderOf", state, 0, lab().orderOf(state), orderOf(model, state));
+            due("recurrentOf", state, 0, lab().recurrentOf(state), model.recurrentOf(state));
             if (stable) {
                 drops(model, state);
             }
@@ -61,21 +56,38 @@ public final class AllGraphsTest {
     }
 
     private static void drops(Model model, int state) {
+        for (int place = 0; place < 4; place++) {
+            for (int grains = 1; grains <= 16; grains *= 4) {
+                oneDrop(model, state, place, grains);
+            }
+        }
+    }
+
+    /** The model takes long for these: they are made from the empty and the full state alone. */
+    private static void greatDrops(Model model) {
+        int full = Numbers.full(Case.degrees(graph));
+        for (int place = 0; place < 4; place++) {
+            for (int grains = 999; grains <= 1000; grains++) {
+                oneDrop(model, 0, place, grains);
+                oneDrop(model, full, place, grains);
+            }
+        }
+    }
+
+    private static void oneDrop(Model model, int state, int place, int grains) {
         SandpileLab x = lab();
+        callsLeft -= 2;
         x.set(state);
         model.set(state);
-        callsLeft -= 10;
-        int place = state % 4;
-        for (int grains = 1; grains <= 16; grains *= 4) {
-            due("drop", place, grains, x.drop(place, grains), model.drop(place, grains));
-            due("state after drop", place, grains, x.state(), model.state());
-        }
+        due("drop", place, grains, x.drop(place, grains), model.drop(place, grains));
+        due("state after drop", place, grains, x.state(), model.state());
     }
 
     private static void everySum(Model model) {
         for (int p = 0; p < 4096; p++) {
             for (int q = 0; model.stable(p) && q < 4096; q++) {
-                if (model.stable(q)) {
+                // Of the many numbers that are no stable state's, some are enough here.
+                if (model.stable(q) || q % 97 == 0) {
                     due("groupSum", p, q, lab().groupSum(p, q), model.groupSum(p, q));
                 }
             }

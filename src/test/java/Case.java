@@ -13,18 +13,21 @@ record Case(int graph, int state) {
     private static final int[] GRAPHS = {Graphs.NO_EDGES, Graphs.LONE_TWOS, Graphs.PAIR, Graphs.STAR,
         Graphs.UNEVEN_RING, Graphs.ALL};
 
-    /** Each graph with the empty state, the full one, and one between where there is one. */
+    /** Six graphs, from the least to the greatest. */
     static List<Case> all() {
         List<Case> cases = new ArrayList<>();
         for (int graph : GRAPHS) {
-            int full = Numbers.full(degrees(graph));
-            cases.add(new Case(graph, 0));
-            if (full > 0) {
-                cases.add(new Case(graph, full));
-                cases.add(new Case(graph, between(graph)));
-            }
+            cases.addAll(on(graph));
         }
         return cases;
+    }
+
+    /** A graph with the empty state, the full one, and one other where there is one. */
+    static List<Case> on(int graph) {
+        int full = Numbers.full(degrees(graph));
+        return full == 0
+            ? List.of(new Case(graph, 0))
+            : List.of(new Case(graph, 0), new Case(graph, full), new Case(graph, between(graph)));
     }
 
     static int[] degrees(int graph) {

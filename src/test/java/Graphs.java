@@ -55,6 +55,13 @@ final class Graphs {
         return model;
     }
 
+    /** The bit of the edge between two different places, in either order. */
+    static int edgeBit(int a, int b) {
+        int greater = Math.max(a, b);
+        int lesser = Math.min(a, b);
+        return 16 << (greater * (greater - 1) / 2 + lesser);
+    }
+
     static int number(int g0, int g1, int g2, int g3) {
         return 512 * g0 + 64 * g1 + 8 * g2 + g3;
     }
